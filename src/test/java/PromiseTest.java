@@ -1,3 +1,5 @@
+import java.util.Arrays;
+
 /** Each promise of the document by itself: ordinary inputs, edges, and wrong inputs. */
 public final class PromiseTest {
     private static final int ALLOW = 0x3C000000;
@@ -21,6 +23,8 @@ public final class PromiseTest {
         promise9Set();
         promise10TestThrows();
         promise10Moves();
+        promise10MovesTouchNothingElse();
+        promise10CellsApart();
         promise10Sums();
         promise10Divisions();
         promise10Jumps();
@@ -335,6 +339,64 @@ public final class PromiseTest {
         due("a run leaves the filter", words.size(0), 4);
     }
 
+    /** Behind A = 3, M2 = A, A = 5, X = 7 and this operation with k 2: what A, X and M2 are. */
+    private static void moved(int op, int a, int x, int cell) {
+        int[] parts = {1, 0, 0, 3, 8, 0, 0, 2, 1, 0, 0, 5, 4, 0, 0, 7, op, 0, 0, 2, 7, 0, 0, 0, 31, 1, 0, 0};
+        FilterStack s = with(parts);
+        s.set(2, 11);
+        due("X behind op " + op, s.test(0), x);
+        due("steps of op " + op, s.steps(), 7);
+        parts[20] = 2;
+        parts[23] = 2;
+        s = with(parts);
+        due("M2 behind op " + op, s.test(0), cell);
+        s = with(Arrays.copyOf(parts, 20));
+        s.set(2, 11);
+        s.add(0, 31, 1, 0, 0);
+        due("A behind op " + op, s.test(0), a);
+        due("the record behind op " + op, s.set(2, 0), 11);
+    }
+
+    private static void promise10MovesTouchNothingElse() {
+        moved(0, 11, 7, 3);
+        moved(1, 2, 7, 3);
+        moved(2, 3, 7, 3);
+        moved(3, 6, 7, 3);
+        moved(4, 5, 2, 3);
+        moved(5, 5, 3, 3);
+        moved(6, 5, 5, 3);
+        moved(7, 7, 7, 3);
+        moved(8, 5, 7, 5);
+        moved(9, 5, 7, 7);
+        for (int op = 10; op <= 24; op++) {
+            moved(op, onBoth(op), 7, 3);
+        }
+    }
+
+    /** What the document says A becomes from A = 5 with k = 2 and X = 7. */
+    private static int onBoth(int op) {
+        int[] results = {7, 3, 10, 2, 0, 7, 7, 20, 1, 12, -2, 35, 0, 5, -5};
+        return results[op - 10];
+    }
+
+    private static void promise10CellsApart() {
+        for (int stored = 0; stored < 16; stored++) {
+            for (int read = 0; read < 16; read++) {
+                checked("stored " + stored + " read " + read, with(8 + read % 2, 0, 0, stored,
+                        read < 8 ? 2 : 5, 0, 0, read, 31, 0, 0, 0), stored == read ? 0 : 7, stored == read ? -1 : 1);
+            }
+        }
+        for (int read = 0; read < 16; read++) {
+            FilterStack s = new FilterStack();
+            for (int cell = 0; cell < 16; cell++) {
+                boolean byX = (cell + read) % 2 == 0;
+                fill(s, 0, byX ? 4 : 1, 0, 0, 100 + cell, byX ? 9 : 8, 0, 0, cell);
+            }
+            fill(s, 0, 2, 0, 0, read, 5, 0, 0, read, 19, 0, 0, 0, 31, 1, 0, 0);
+            verdict("cell " + read + " of sixteen", s, 200 + 2 * read, 36);
+        }
+    }
+
     private static int onNumber(int a, int op, int k) {
         return with(1, 0, 0, a, 4, 0, 0, 77, op, 0, 0, k, 31, 1, 0, 0).test(0);
     }
@@ -602,6 +664,12 @@ public final class PromiseTest {
         s.clear(0);
         due("the copies stay", s.judge(), 3 << 8);
         due("steps of the first copy", s.steps(), 3);
+        FilterStack jumps = with(0, 0, 0, 0, 26, 1, 2, 5, 31, 0, 0, 1, 31, 0, 0, 2, 31, 0, 0, 3);
+        jumps.install(0);
+        jumps.clear(0);
+        due("a copy jumps by no", jumps.judge(), 3);
+        jumps.set(0, 5);
+        due("a copy jumps by yes", jumps.judge(), 2);
         FilterStack words = with(0, 0, 0, 15, 31, 1, 0, 0);
         words.install(0);
         words.set(15, 99);
