@@ -229,11 +229,9 @@ public final class PromiseTest {
     }
 
     private static void promise7FaultOrder() {
-        int[] early = {2, 0, 0, 0};
-        int[] end = {1, 0, 0, 0};
         checked("6", with(1, 0, 0, 0), 6, 0);
         checked("6 at the end", with(31, 0, 0, 0, 24, 0, 0, 0), 6, 1);
-        checked("6 before 7", with(early[0], 0, 0, 0, end[0], 0, 0, 0), 6, 1);
+        checked("6 before 7", with(2, 0, 0, 0, 1, 0, 0, 0), 6, 1);
         checked("5 before 6", with(2, 0, 0, 0, 25, 0, 0, 9, 1, 0, 0, 0), 5, 1);
         checked("4 before 5", with(2, 0, 0, 0, 25, 0, 0, 9, 18, 0, 0, 32), 4, 2);
         checked("3 before 4", with(25, 0, 0, 9, 18, 0, 0, 32, 13, 0, 0, 0), 3, 2);
