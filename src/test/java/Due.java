@@ -5,20 +5,39 @@ final class Due {
 
     private int asked = 0;
     private int wrong = 0;
+    private String sentence = "";
+    private int askedBefore = 0;
+
+    /** From here on the answers are those that this sentence of the document asks for. */
+    void sentence(String words) {
+        endSentence();
+        sentence = words;
+        askedBefore = asked;
+    }
+
+    // A sentence under which nothing was asked would look as if it held.
+    private void endSentence() {
+        if (!sentence.isEmpty() && asked == askedBefore) {
+            report("nothing was asked");
+        }
+    }
+
+    private void report(String what) {
+        wrong++;
+        System.out.println((sentence.isEmpty() ? "" : "\"" + sentence + "\": ") + what);
+    }
 
     void same(String call, int got, int want) {
         asked++;
         if (got != want) {
-            wrong++;
-            System.out.println(call + " answered " + got + ", due is " + want);
+            report(call + " answered " + got + ", due is " + want);
         }
     }
 
     void same(String call, Object got, Object want) {
         asked++;
         if (!got.equals(want)) {
-            wrong++;
-            System.out.println(call + " gave " + got + ", due is " + want);
+            report(call + " gave " + got + ", due is " + want);
         }
     }
 
@@ -52,6 +71,7 @@ final class Due {
     }
 
     void end() {
+        endSentence();
         System.out.println(wrong == 0 ? asked + " answers are as due"
                 : wrong + " of " + asked + " answers are not as due");
         if (wrong != 0) {

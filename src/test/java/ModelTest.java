@@ -1,9 +1,12 @@
 import java.util.Arrays;
 
-/** Sets the program against the Model in many runs of 512 calls, the same ones every time. */
+/** Sets the program against the Model in many runs of some 500 calls, the same ones every time. */
 public final class ModelTest {
     private static final int RUNS = 3000;
+    /** What an object answers behind its 512th call is free. */
     private static final int CALLS = 512;
+    /** No batch makes more calls: a filter is emptied, filled, and asked about. */
+    private static final int LONGEST_BATCH = 1 + 40 + 2;
     private static final int[] NUMBERS = {0, 0, 1, 1, 2, 3, 7, 15, 16, 31, 32, 255, 256, 0x3C000000,
         -1, -2, -256, -257, Integer.MIN_VALUE, Integer.MAX_VALUE, 0x10001};
 
@@ -11,7 +14,8 @@ public final class ModelTest {
     /** How often each answer of fault(), -1 to 7, was met: a guard on what the runs are worth. */
     private final int[] reached = new int[9];
     private long seed = 20261115L;
-    private FilterStack program = new FilterStack();
+    private FilterStack object = new FilterStack();
+    private int made = 0;
     private Model model = new Model();
 
     public static void main(String[] args) {
@@ -47,34 +51,37 @@ public final class ModelTest {
     }
 
     private void oneRun() {
-        program = new FilterStack();
+        object = new FilterStack();
+        made = 0;
         model = new Model();
-        int made = 0;
-        while (made < CALLS) {
-            int batch = below(30) == 0 ? growFilter() : 1;
-            if (batch == 1) {
+        while (made <= CALLS - LONGEST_BATCH) {
+            if (below(30) == 0) {
+                growFilter();
+            } else {
                 oneCall();
             }
-            made += batch;
         }
     }
 
+    /** The object, for one call. */
+    private FilterStack program() {
+        made++;
+        return object;
+    }
+
     /** A filter that is likely to be good, since one out of wild numbers hardly ever is. */
-    private int growFilter() {
+    private void growFilter() {
         int f = below(4);
         int length = 2 + below(below(3) == 0 ? 39 : 10);
-        due.same("clear", program.clear(f), model.clear(f));
-        int calls = 3;
+        due.same("clear", program().clear(f), model.clear(f));
         for (int i = 0; i < length; i++) {
             int op = i == length - 1 ? 31 : below(10) == 0 ? 31 : below(31);
             int room = Math.max(1, length - 1 - i + (below(60) == 0 ? 1 : 0));
             boolean wild = below(150) == 0;
             int near = below(Math.min(room, 4));
             add(f, op, wild ? below(256) : near, below(Math.min(room, 4)), wild ? number() : fitting(op, near));
-            calls++;
         }
         ask(f);
-        return calls;
     }
 
     private int fitting(int op, int near) {
@@ -95,14 +102,14 @@ public final class ModelTest {
     }
 
     private void add(int f, int op, int yes, int no, int k) {
-        due.same("add", program.add(f, op, yes, no, k), model.add(f, op, yes, no, k));
+        due.same("add", program().add(f, op, yes, no, k), model.add(f, op, yes, no, k));
     }
 
     private void ask(int f) {
-        int fault = program.fault(f);
+        int fault = program().fault(f);
         reached[fault + 1]++;
         due.same("fault", fault, model.fault(f));
-        due.same("place", program.place(f), model.place(f));
+        due.same("place", program().place(f), model.place(f));
     }
 
     private void oneCall() {
@@ -112,34 +119,34 @@ public final class ModelTest {
         switch (below(14)) {
             case 0 -> add(f, below(34) - 1, below(9) == 0 ? below(258) - 1 : below(3),
                     below(9) == 0 ? below(258) - 1 : below(3), number());
-            case 1 -> due.same("size", program.size(f), model.size(f));
-            case 2 -> due.same("shape", program.shape(f, i), model.shape(f, i));
-            case 3 -> due.same("number", program.number(f, i), model.number(f, i));
+            case 1 -> due.same("size", program().size(f), model.size(f));
+            case 2 -> due.same("shape", program().shape(f, i), model.shape(f, i));
+            case 3 -> due.same("number", program().number(f, i), model.number(f, i));
             case 4 -> ask(f);
-            case 5 -> due.same("set", program.set(i % 18 - 1, v), model.set(i % 18 - 1, v));
+            case 5 -> due.same("set", program().set(i % 18 - 1, v), model.set(i % 18 - 1, v));
             case 6, 7 -> test(f);
-            case 8 -> due.same("steps", program.steps(), model.steps());
+            case 8 -> due.same("steps", program().steps(), model.steps());
             case 9 -> rule(below(3), below(2) == 0 ? -1 : below(15) - 2, number(), number());
-            case 10 -> due.same("compile", program.compile(f, v), model.compile(f, v));
+            case 10 -> due.same("compile", program().compile(f, v), model.compile(f, v));
             case 11 -> install(f);
-            case 12 -> due.same("judge", program.judge(), model.judge());
+            case 12 -> due.same("judge", program().judge(), model.judge());
             default -> rareCall(f);
         }
     }
 
     private void rareCall(int f) {
         if (below(3) == 0) {
-            due.same("forget", program.forget(), model.forget());
+            due.same("forget", program().forget(), model.forget());
         } else if (below(3) == 0) {
-            due.same("clear", program.clear(f), model.clear(f));
+            due.same("clear", program().clear(f), model.clear(f));
         } else {
             int call = below(3);
-            due.same("set", program.set(0, call), model.set(0, call));
+            due.same("set", program().set(0, call), model.set(0, call));
         }
     }
 
     private void rule(int call, int argument, int mask, int value) {
-        due.same("rule", program.rule(call, argument, mask, value), model.rule(call, argument, mask, value));
+        due.same("rule", program().rule(call, argument, mask, value), model.rule(call, argument, mask, value));
     }
 
     private void test(int f) {
@@ -151,10 +158,10 @@ public final class ModelTest {
             want = Due.kindOf(e);
         }
         if (want != Due.Thrown.NOTHING) {
-            due.same("test", Due.thrownByTest(program, f), want);
+            due.same("test", Due.thrownByTest(program(), f), want);
         } else {
-            due.same("test", program.test(f), verdict);
-            due.same("steps", program.steps(), model.steps());
+            due.same("test", program().test(f), verdict);
+            due.same("steps", program().steps(), model.steps());
         }
     }
 
@@ -171,9 +178,9 @@ public final class ModelTest {
             want = Due.kindOf(e);
         }
         if (want != Due.Thrown.NOTHING) {
-            due.same("install", Due.thrownByInstall(program, f), want);
+            due.same("install", Due.thrownByInstall(program(), f), want);
         } else {
-            due.same("install", program.install(f), height);
+            due.same("install", program().install(f), height);
         }
     }
 }
