@@ -351,17 +351,17 @@ public final class FilterStack {
         private void passOn(Filter filter, int i, int cells) {
             int operation = filter.operations[i];
             if (operation < JUMP) {
-                meet(filter, i + 1, cells);
+                meet(i + 1, cells);
             } else if (operation == JUMP) {
-                meet(filter, i + 1 + filter.numbers[i], cells);
+                meet(i + 1 + filter.numbers[i], cells);
             } else if (operation < ANSWER) {
-                meet(filter, i + 1 + filter.yes[i], cells);
-                meet(filter, i + 1 + filter.no[i], cells);
+                meet(i + 1 + filter.yes[i], cells);
+                meet(i + 1 + filter.no[i], cells);
             }
         }
 
-        private void meet(Filter filter, int target, int cells) {
-            if (filter.has(target)) {
+        private void meet(int target, int cells) {
+            if (target >= 0 && target < MOST_INSTRUCTIONS) {
                 stored[target] &= cells;
             }
         }

@@ -2,7 +2,9 @@ import java.lang.reflect.Constructor;
 import java.lang.reflect.Field;
 import java.lang.reflect.Method;
 import java.lang.reflect.Modifier;
+import java.util.ArrayList;
 import java.util.Arrays;
+import java.util.List;
 import java.util.TreeSet;
 
 /** The class has the document's face, and nothing else that is seen from outside. */
@@ -25,6 +27,8 @@ public final class FaceTest {
         due.same("throws of install", thrown("install"),
                 set("IndexOutOfBoundsException", "IllegalStateException", "UnsupportedOperationException"));
         due.same("static state", changeableStatics(), set());
+        due.same("classes inside that are seen or not static", wrongClassesInside(), set());
+        due.same("private methods with a public one's name", namesTwice(), set());
         due.end();
     }
 
@@ -73,12 +77,51 @@ public final class FaceTest {
         return seen;
     }
 
+    /** The class and those inside it. */
+    private static List<Class<?>> classes() {
+        List<Class<?>> all = new ArrayList<>();
+        all.add(FilterStack.class);
+        all.addAll(Arrays.asList(FilterStack.class.getDeclaredClasses()));
+        return all;
+    }
+
     private static TreeSet<String> changeableStatics() {
         TreeSet<String> seen = new TreeSet<>();
-        for (Field field : FilterStack.class.getDeclaredFields()) {
-            int modifiers = field.getModifiers();
-            if (Modifier.isStatic(modifiers) && !Modifier.isFinal(modifiers)) {
-                seen.add(field.getName());
+        for (Class<?> type : classes()) {
+            for (Field field : type.getDeclaredFields()) {
+                int modifiers = field.getModifiers();
+                if (Modifier.isStatic(modifiers) && !Modifier.isFinal(modifiers)) {
+                    seen.add(type.getName() + "." + field.getName());
+                }
+            }
+        }
+        return seen;
+    }
+
+    private static TreeSet<String> wrongClassesInside() {
+        TreeSet<String> seen = new TreeSet<>();
+        for (Class<?> type : FilterStack.class.getDeclaredClasses()) {
+            int modifiers = type.getModifiers();
+            if (Modifier.isPublic(modifiers) || Modifier.isProtected(modifiers) || !Modifier.isStatic(modifiers)) {
+                seen.add(type.getName());
+            }
+        }
+        return seen;
+    }
+
+    private static TreeSet<String> namesTwice() {
+        TreeSet<String> publicNames = new TreeSet<>();
+        for (Method method : FilterStack.class.getDeclaredMethods()) {
+            if (Modifier.isPublic(method.getModifiers())) {
+                publicNames.add(method.getName());
+            }
+        }
+        TreeSet<String> seen = new TreeSet<>();
+        for (Class<?> type : classes()) {
+            for (Method method : type.getDeclaredMethods()) {
+                if (Modifier.isPrivate(method.getModifiers()) && publicNames.contains(method.getName())) {
+                    seen.add(type.getName() + "." + method.getName());
+                }
             }
         }
         return seen;
